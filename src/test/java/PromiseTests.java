@@ -482,12 +482,23 @@ public final class PromiseTests {
         due(27, "rule", x.rule(-1, 0), -2);
         due(27, "what", x.rule(0, 2), -2);
         due(27, "what", x.rule(0, -1), -2);
+        x = told("p001;p000;p000;p000;w0030;w0130;w0230;d01;");
+        due(27, "half are not less", x.rule(1, 1), 2);
+        due(27, "force above 2", x.rule(3, 1), 1);
+        x.blows(0, 2, 0);
+        due(27, "force of 2", x.rule(3, 1), 4);
+        x.blows(1, 5, 0);
+        due(27, "force of 5 ahead", x.rule(4, 1), 1);
+        x.blows(1, 6, 0);
+        due(27, "force of 6 ahead", x.rule(4, 1), 4);
+        x = told("p001;p000;p000;p000;p000;p000;p000;w0030;d03;");
         due(28, "best", x.best(), 1);
         due(28, "nobody", new LitAgain().best(), 0);
         due(28, "least of several", told("p001;p000;").best(), 0);
         due(28, "as many in fewer minutes", told("p001;p000;p000;d01;").best(), 1);
         due(28, "most", told("p001;p000;p000;p000;p000;d01;").best(), 2);
         due(28, "ahead of a storm", told("p001;p000;p000;p000;p000;w0030;w0160;w0262;d02;").best(), 0);
+        due(27, "five at each of 24 places", told("p001;p600;p000;d24;").rule(2, 1), 144);
         due(27, "five at one place", told("p001;p000;p000;p000;p000;p000;p000;p000;d01;").rule(2, 0), 7);
         due(27, "five at one place", told("p001;p000;p000;p000;p000;p000;p000;p000;d01;").rule(2, 1), 6);
     }
@@ -555,6 +566,7 @@ public final class PromiseTests {
         due(31, "room", x.chances(4, 2, 2), FAR + 6);
         due(31, "what", x.chances(0, 2, 0), FAR + 2);
         due(31, "part", x.chances(0, 0, -1), FAR + 2);
+        due(31, "part", x.chances(0, 0, 2), FAR + 2);
         due(31, "five", told("p000;p000;p000;p000;p000;").chances(0, 0, 0), FAR + 3);
         due(31, "four", told("p001;p000;p000;p000;").chances(3, 1, 0), 4);
         x = told("p001;d02;");
@@ -642,7 +654,7 @@ public final class PromiseTests {
         due(37, "a night", dark, x.door(1) == 0 ? 1 : 0);
 
         x = told("p001;p001;w0040;w0141;d02;");
-        due(33, "across both go out", x.sides(), 0);
+        due(33, "least of several", x.sides(), 0);
         due(33, "from behind", told("p001;p401;w0050;d01;f01;").sides(), 1);
         due(33, "across", told("p001;p401;d01;").sides(), 0);
         due(33, "nobody", new LitAgain().sides(), 0);
@@ -783,14 +795,22 @@ public final class PromiseTests {
         due(49, "all the same", x.game(0), 0);
         due(49, "sure", x.game(1), 2);
         due(49, "known", x.game(2), 2);
-        // a TALL one and a WALKER in 5: in a row from the front one is left and lights none behind
-        x = told("p491;p001;w0050;d01;");
-        due(49, "steady", x.game(0), 0);
+        // a NUN behind a SMALL one lights the foremost in a RING or in PAIRS alone
+        x = told("p120;p620;p541;w0041;d01;f12;");
+        due(49, "the first form with most", x.game(0), 10);
         due(49, "sure", x.game(1), 2);
-        x = told("p401;p031;p001;w0040;d01;");
+        due(49, "known", x.game(2), 2);
+        due(49, "as it was", x.count(4), 1);
+        // only in PAIRS the last lights two
+        due(49, "pairs", told("p680;p401;p190;p061;w0040;d01;f22;").game(0), 20);
+        // by ROW or RING from the front three are LIT, else two at most
+        x = told("p471;p051;p541;w0062;d01;f01;");
+        due(49, "the first side with fewest", x.game(0), 1);
+        due(49, "sure", x.game(1), 2);
+        due(49, "known", x.game(2), 2);
         due(49, "what", x.game(3), -2);
         due(49, "what", x.game(-1), -2);
-        due(49, "as it was", x.count(4), 0);
+        due(49, "as it was", x.wind(0, 1), 2);
 
         x = told("p001;p600;w0062;d01;");
         due(50, "lantern alone", x.heirs(0), 8);
@@ -848,6 +868,9 @@ public final class PromiseTests {
         due(52, "no fourth", x.matches(3), -9);
         x.set(2, 2);
         due(52, "no room for three", x.matches(-1), -9);
+        x = told("p000;p600;p000;p600;p300;w0292;d03;");
+        due(52, "three from now on", x.matches(-1), 3);
+        due(52, "three from now on", x.matches(0) * 100 + x.matches(1) * 10 + x.matches(2), 12);
     }
 
     private static void images() {
