@@ -1,0 +1,285 @@
+/** Were the people, their order, their form, the wind or the DOOR other than they are. */
+final class SentencesOnOthers {
+    private SentencesOnOthers() { }
+
+    // ---- promise 20
+
+    @Says(promise = 20, sentence = "LOWER: who, were it LOW (FIGURE as it is), would make more LIGHT at the DOOR")
+    static void theFigureStays() {
+        Due.is("a LOW of 3 holds 5", Due.told("p031;w0052;d01;").lower(), 0);
+        Due.is("a LOW of 0 does not", Due.told("p001;w0052;d01;").lower(), -9);
+    }
+
+    @Says(promise = 20, sentence = "would make more LIGHT at the DOOR; of several the most, then the least; -9.")
+    static void moreLightTheMostTheLeast() {
+        Due.is("as much light", Due.told("p101;d01;").lower(), -9);
+        Due.is("less light", Due.told("p001;d01;").lower(), -9);
+        Due.is("nobody", new LitAgain().lower(), -9);
+        Due.is("the most", Due.told("p600;p001;p600;p000;d02;f02;").lower(), 2);
+        Due.is("then the least", Due.told("p600;p001;p600;d02;f02;").lower(), 0);
+        Due.is("the last of eight", Due.told(Due.many(6, "p001;") + "p001;p600;d01;").lower(), 7);
+        Due.is("no minute", Due.told("p001;p600;d01;m0;").lower(), -9);
+    }
+
+    // ---- promise 21
+
+    @Says(promise = 21, sentence = "CHANGED: the two (10 times the lesser and the other) who are to change (KIND, FIGURE, LIT)")
+    static void whatTheTwoChange() {
+        // foremost, the TALL one covers the WALKER, who lights it again
+        Due.is("kinds", Due.told("p001;p401;w0050;d01;").changed(), 1);
+        Due.is("the dark one comes beside the lit one", Due.told(Due.many(5, "p600;") + "p001;p600;p000;d01;").changed(), 47);
+    }
+
+    @Says(promise = 21, sentence = "so that most are LIT at the DOOR, more than now; of several the first; -9")
+    static void mostThenTheFirst() {
+        Due.is("no more", Due.told("p001;p401;d01;").changed(), -9);
+        Due.is("one alone", Due.told("p001;").changed(), -9);
+        Due.is("nobody", new LitAgain().changed(), -9);
+        Due.is("no minute", Due.told("p001;p000;d01;m0;").changed(), -9);
+        Due.is("the first", Due.told("p600;p001;p600;p000;d01;").changed(), 3);
+        // 0 and 1 would do for two, 0 and 3 for three
+        Due.is("the most", Due.told("p000;p600;p001;p600;p000;p000;f02;d02;").changed(), 3);
+    }
+
+    // ---- promise 22
+
+    @Says(promise = 22, sentence = "BEST ORDER of all (6 at most)")
+    static void sixAtMost() {
+        Due.is("six", Due.told(Due.many(6, "p000;")).order(0), 543210);
+        Due.is("one", Due.told("p001;").order(0), 0);
+        Due.is("one", Due.told("p001;").order(1), 1);
+        Due.refused("seven", () -> Due.told(Due.many(7, "p000;")), x -> x.order(0), -3);
+        Due.refused("eight", () -> Due.told(Due.many(8, "p000;")), x -> x.order(1), -3);
+        Due.refused("nobody", LitAgain::new, x -> x.order(0), -3);
+    }
+
+    @Says(promise = 22, sentence = "BEST ORDER: digits (what 0), how many (1). -2; -3 nobody, more than 6.")
+    static void whatOrderRefuses() {
+        Due.refused("order(2)", x -> x.order(2), -2);
+        Due.refused("order(-1)", x -> x.order(-1), -2);
+        Due.refused("order(2) of nobody", LitAgain::new, x -> x.order(2), -2);
+        Due.refused("order(2) of seven", () -> Due.told(Due.many(7, "p000;")), x -> x.order(2), -2);
+    }
+
+    @Says(promise = 22, sentence = "the first (by PEOPLE as they are now, one behind the other; as digits, the first the lowest)")
+    static void theFirstOrderOfSeveral() {
+        Due.is("as they are", Due.told("p001;p001;p001;p001;d01;").order(0), 3210);
+        Due.is("the foremost is the lowest digit", Due.told("p000;p000;p001;d01;").order(0), 210);
+        Due.is("two are lit in each order", Due.told("p000;p000;p001;d01;").order(1), 2);
+        Due.is("in the middle both are lit", Due.told("p001;p000;p000;d01;f02;").order(0), 201);
+        Due.is("in the middle both are lit", Due.told("p001;p000;p000;d01;f02;").order(1), 3);
+        Due.is("the last of 720", Due.told("p001;p011;p021;p031;p041;p051;d01;").order(0), 543210);
+    }
+
+    // ---- promise 23
+
+    @Says(promise = 23, sentence = "LANTERN: who, were it one (LIT, too), would make most LIT at the DOOR, of several the least; how many then.")
+    static void whoShouldHaveTheLantern() {
+        Due.is("lit, too", Due.told("p000;w0092;d01;").lantern(1), 1);
+        Due.is("of several the least", Due.told("p000;p000;p000;w0092;d01;").lantern(0), 0);
+        Due.is("the most", Due.told("p000;p000;p000;w0092;d01;f02;").lantern(0), 1);
+        Due.is("how many", Due.told("p000;p000;p000;w0092;d01;f02;").lantern(1), 3);
+        Due.is("no more than without", Due.told("p001;p001;d01;").lantern(0), 0);
+        Due.is("no more than without", Due.told("p001;p001;d01;").lantern(1), 2);
+        Due.is("the last of eight", Due.told(Due.many(6, "p301;") + "p301;p000;d01;m0;d02;l7;w0192;").lantern(0), 0);
+        Due.is("at the door", Due.told("p000;p000;d01;m0;").lantern(1), 1);
+    }
+
+    @Says(promise = 23, sentence = "LANTERN: who (what 0), how many (1). -2; -3 nobody is there.")
+    static void whatLanternRefuses() {
+        Due.refused("lantern(2)", x -> x.lantern(2), -2);
+        Due.refused("lantern(-1)", x -> x.lantern(-1), -2);
+        Due.refused("lantern(0) of nobody", LitAgain::new, x -> x.lantern(0), -3);
+        Due.refused("lantern(1) of nobody", LitAgain::new, x -> x.lantern(1), -3);
+        Due.refused("lantern(2) of nobody", LitAgain::new, x -> x.lantern(2), -2);
+        Due.is("one alone", Due.told("p000;").lantern(0), 0);
+    }
+
+    // ---- promise 24
+
+    @Says(promise = 24, sentence = "FEWEST LANTERNS (so) by which all but SMALL ones are LIT at the DOOR: how many; the set (the least bits)")
+    static void fromNoLanternToAll() {
+        LitAgain none = Due.told("p001;p600;p001;d01;");
+        Due.is("none, how many", none.fewest(0), 0);
+        Due.is("none, the set", none.fewest(1), 0);
+        Due.is("nobody there", new LitAgain().fewest(0), 0);
+        Due.is("nobody there, the set", new LitAgain().fewest(1), 0);
+        Due.is("small ones alone", Due.told("p600;p600;").fewest(0), 0);
+        LitAgain all = Due.told(Due.many(8, "p000;") + "d01;m0;");
+        Due.is("all eight at the door", all.fewest(0), 8);
+        Due.is("all eight at the door, the set", all.fewest(1), 255);
+    }
+
+    @Says(promise = 24, sentence = "how many; the set (the least bits); -9.")
+    static void theFewestThenTheLeastBits() {
+        LitAgain least = Due.told("p000;p000;w0092;d01;");
+        Due.is("one of two", least.fewest(0), 1);
+        Due.is("the least", least.fewest(1), 1);
+        LitAgain middle = Due.told("p000;p000;p000;w0092;d01;f02;");
+        Due.is("one, though 0 and 1 would do, too", middle.fewest(1), 2);
+        LitAgain four = Due.told("p000;p000;p000;p000;w0092;d01;f02;");
+        Due.is("two", four.fewest(0), 2);
+        Due.is("the least two: 0 and 2", four.fewest(1), 5);
+    }
+
+    @Says(promise = 24, sentence = "FEWEST LANTERNS: how many (what 0), the set (1); -9. -2.")
+    static void whatFewestRefuses() {
+        Due.refused("fewest(2)", x -> x.fewest(2), -2);
+        Due.refused("fewest(-1)", x -> x.fewest(-1), -2);
+    }
+
+    // ---- promise 33
+
+    @Says(promise = 33, sentence = "SIDES: the SIDE (0, 1, 2), were all WIND so, by which most are LIT at the DOOR; of several the least.")
+    static void theBestSide() {
+        Due.is("nobody", new LitAgain().sides(), 0);
+        Due.is("no wind", Due.told("p001;p000;").sides(), 0);
+        Due.is("all alike", Due.told("p001;w0092;d01;").sides(), 0);
+        // 4 behind a LOW is not held, 4 ahead of a WALKER is; the LOW holds 4 anywhere
+        Due.is("from the front", Due.told("p201;p001;w0042;w0142;d02;").sides(), 0);
+        Due.is("from behind", Due.told("p001;p201;p600;w0042;d01;").sides(), 0);
+        Due.is("from behind", Due.told("p001;p401;w0050;d01;f01;").sides(), 1);
+        Due.is("at all places", Due.told("p001;p401;w0050;w0152;d02;").sides(), 1);
+    }
+
+    // ---- promise 41
+
+    @Says(promise = 41, sentence = "the fewest (not SMALL) who, were they alone LIT now, would have all but SMALL ones LIT at the DOOR, walking: how many; the set")
+    static void whoIsEnoughAtFirst() {
+        LitAgain x = Due.told("p001;p000;p000;d01;f02;");
+        Due.is("how many", x.atFirst(0), 1);
+        Due.is("the middle one alone, not who is lit now", x.atFirst(1), 2);
+        Due.is("small ones alone", Due.told("p600;p600;").atFirst(0), 0);
+        Due.is("small ones alone, the set", Due.told("p600;p600;").atFirst(1), 0);
+        Due.is("nobody there", new LitAgain().atFirst(1), 0);
+        LitAgain all = Due.told(Due.many(8, "p000;") + "d01;m0;");
+        Due.is("all at the door", all.atFirst(0), 8);
+        Due.is("all at the door, the set", all.atFirst(1), 255);
+        LitAgain small = Due.told("p600;p000;p600;p000;d12;");
+        Due.is("not small ones", small.atFirst(0), 2);
+        Due.is("not small ones, the set", small.atFirst(1), 10);
+    }
+
+    @Says(promise = 41, sentence = "the set (of several the least); -9.")
+    static void theLeastSetOfSeveral() {
+        LitAgain x = Due.told("p000;p000;p000;p000;d01;f02;");
+        Due.is("how many", x.atFirst(0), 2);
+        Due.is("0 and 2", x.atFirst(1), 5);
+        Due.is("one of three", Due.told("p000;p000;p000;d02;").atFirst(1), 1);
+        LitAgain none = Due.told("p001;w0042;");
+        Due.is("none, how many", none.atFirst(0), -9);
+        Due.is("none, the set", none.atFirst(1), -9);
+    }
+
+    @Says(promise = 41, sentence = "ENOUGH AT FIRST: how many (what 0), the set (1); -9. -2.")
+    static void whatAtFirstRefuses() {
+        Due.refused("atFirst(2)", x -> x.atFirst(2), -2);
+        Due.refused("atFirst(-1)", x -> x.atFirst(-1), -2);
+    }
+
+    // ---- promise 42
+
+    @Says(promise = 42, sentence = "FORMS: the FORM and EACH (10 FORM and EACH) by which most are LIT at the DOOR, of several the least; how many.")
+    static void theBestForm() {
+        Due.is("nobody", new LitAgain().forms(0), 1);
+        Due.is("nobody, how many", new LitAgain().forms(1), 0);
+        Due.is("all alike", Due.told("p001;f22;").forms(0), 1);
+        Due.is("a row, two", Due.told("p000;p001;p000;d01;").forms(0), 2);
+        Due.is("a ring, two", Due.told("p001;p000;p000;d01;").forms(0), 12);
+        Due.is("pairs, one", Due.told("p301;p600;p301;p300;d01;").forms(0), 1);
+        Due.is("a ring, one", Due.told("p001;p600;p000;d01;").forms(0), 11);
+        Due.is("pairs, one", Due.told("p001;p600;p000;p600;d01;").forms(0), 21);
+        Due.is("how many", Due.told("p001;p600;p000;p600;d01;").forms(1), 2);
+        Due.is("pairs, two", Due.told("p600;p000;p001;p000;p600;d01;").forms(0), 2);
+        Due.is("pairs, two", Due.told("p000;p600;p001;p600;p000;d01;").forms(0), 22);
+    }
+
+    @Says(promise = 42, sentence = "FORMS: it (what 0), how many (1). -2.")
+    static void whatFormsRefuses() {
+        Due.refused("forms(2)", x -> x.forms(2), -2);
+        Due.refused("forms(-1)", x -> x.forms(-1), -2);
+    }
+
+    // ---- promise 44
+
+    @Says(promise = 44, sentence = "FARTHEST: the greatest DOOR (from PLACE, 1 at least, to 24) at which somebody is LIT; -9.")
+    static void theFarthestDoor() {
+        Due.is("to 24", Due.told("p001;d01;w2492;").farthest(), 24);
+        Due.is("24 is behind place 23", Due.told("p001;d01;w2392;").farthest(), 23);
+        Due.is("behind place 1", Due.told("p001;w0192;").farthest(), 1);
+        Due.is("1 at least", Due.told("p001;w0092;").farthest(), -9);
+        Due.is("from the place", Due.told("p001;m0;m0;w0292;").farthest(), 2);
+        Due.is("none", Due.told("p000;").farthest(), -9);
+        Due.is("none, later", Due.told("p000;m0;m0;").farthest(), -9);
+        Due.is("nobody", new LitAgain().farthest(), -9);
+        Due.is("farther than the door", Due.told("p001;d01;m0;").farthest(), 24);
+        Due.is("at 24", Due.told("p001;d24;" + Due.many(24, "m0;")).farthest(), 24);
+        Due.is("at 24, dark", Due.told("p000;d24;" + Due.many(24, "m0;")).farthest(), -9);
+    }
+
+    // ---- promise 45
+
+    @Says(promise = 45, sentence = "TURNED ROUND: all in the other order, the last foremost (LIT goes with each): how many are LIT at the DOOR.")
+    static void allInTheOtherOrder() {
+        Due.is("nobody", new LitAgain().turned(), 0);
+        Due.is("one", Due.told("p001;").turned(), 1);
+        Due.is("the middle one stays", Due.told("p600;p001;p600;").turned(), 1);
+        // turned, the WALKER is behind the TALL one and lights it again
+        Due.is("kinds go", Due.told("p001;p401;w0050;d01;").turned(), 2);
+        Due.is("figures go", Due.told("p001;p600;p091;w0060;d01;").turned(), 1);
+        Due.is("lit goes", Due.told("p001;p000;p600;d01;").turned(), 2);
+        Due.is("lit goes", Due.told("p001;p600;p000;d01;").turned(), 1);
+        Due.is("at the door", Due.told("p001;p000;p000;d01;m0;").turned(), 2);
+    }
+
+    // ---- promise 49
+
+    @Says(promise = 49, sentence = "the first pair (10 FORM and SIDE) by which neither has it better by another choice alone; -9")
+    static void theFirstSteadyPair() {
+        Due.is("nobody", new LitAgain().game(0), 0);
+        Due.is("all alike", Due.told("p001;p001;f22;").game(0), 0);
+        Due.is("the first form with more", Due.told("p120;p620;p541;w0041;d01;f12;").game(0), 10);
+        Due.is("pairs", Due.told("p680;p401;p190;p061;w0040;d01;f22;").game(0), 20);
+        Due.is("the first side with fewer", Due.told("p471;p051;p541;w0062;d01;f01;").game(0), 1);
+    }
+
+    @Says(promise = 49, sentence = "SURE: the greatest number that they can have whatever SIDE comes; KNOWN: the least number that the wind can bring about")
+    static void sureAndKnown() {
+        LitAgain x = Due.told("p120;p620;p541;w0041;d01;f12;");
+        Due.is("sure", x.game(1), 2);
+        Due.is("known", x.game(2), 2);
+        Due.is("nobody, sure", new LitAgain().game(1), 0);
+        Due.is("nobody, known", new LitAgain().game(2), 0);
+        LitAgain two = Due.told("p471;p051;p541;w0062;d01;f01;");
+        Due.is("not the most of a side", two.game(1), 2);
+        Due.is("not the most of a side", two.game(2), 2);
+    }
+
+    @Says(promise = 49, sentence = "A GAME (what 0; -9), SURE (1), KNOWN (2). -2.")
+    static void whatGameRefuses() {
+        Due.refused("game(3)", x -> x.game(3), -2);
+        Due.refused("game(-1)", x -> x.game(-1), -2);
+    }
+
+    // ---- promise 50
+
+    @Says(promise = 50, sentence = "HEIRS: of all KINDS (0 .. 6; FIGURE as it is, LIT as it is, but SMALL not) those (bits) by which one, were it such, would be LIT at the DOOR.")
+    static void theKindsThatOneMayBe() {
+        Due.is("lit, no wind: all but SMALL", Due.told("p001;d01;").heirs(0), 63);
+        Due.is("dark, alone: none", Due.told("p000;d01;").heirs(0), 0);
+        Due.is("a SMALL one grows, dark", Due.told("p600;d01;").heirs(0), 0);
+        Due.is("a SMALL one is lit then", Due.told("p600;p301;d01;").heirs(0), 63);
+        Due.is("figure 0 in 4", Due.told("p001;w0042;d01;").heirs(0), 2 + 4 + 8 + 32);
+        Due.is("figure 9 in 6", Due.told("p091;w0062;d01;").heirs(0), 1 + 2 + 4 + 8 + 32);
+        Due.is("figure 9 in 9", Due.told("p091;w0092;d01;").heirs(0), 8 + 32);
+        Due.is("at the door, lit", Due.told("p001;d01;m0;").heirs(0), 63);
+        Due.is("not lit, though it was, as SMALL", Due.told("p301;p000;d02;").heirs(0), 63);
+    }
+
+    @Says(promise = 50, sentence = "HEIRS (bits). -1.")
+    static void whatHeirsRefuses() {
+        Due.refused("heirs(4)", x -> x.heirs(4), -1);
+        Due.refused("heirs(-1)", x -> x.heirs(-1), -1);
+        Due.refused("heirs(0) of nobody", LitAgain::new, x -> x.heirs(0), -1);
+    }
+}
