@@ -179,6 +179,9 @@ final class SentencesInMind {
         LitAgain x = Due.told("p001;p001;w0040;w0141;d02;");
         Due.is("flame(0)", x.flame(0), 1);
         Due.is("flame(1)", x.flame(1), 1);
+        x.blows(0, 0, 0);
+        x.blows(1, 0, 0);
+        Due.is("without wind, its own", x.flame(0), 0);
         // 1 is lit by 0 in the first minute; 0 goes out in the second and gets the light back
         LitAgain late = Due.told("p001;p000;p001;w0140;d02;");
         Due.is("its own, by the next", late.flame(0), 0);

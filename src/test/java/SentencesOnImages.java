@@ -41,6 +41,23 @@ final class SentencesOnImages {
         Due.is("to take back", x.count(10), 0);
     }
 
+    @Says(promise = 38, sentence = "8 at most (older ones no more")
+    static void theOldestGoesWithAllThatItKept() {
+        LitAgain x = Due.told("p001;" + Due.many(7, "p000;") + "d24;");
+        int[] lits = new int[11];
+        for (int i = 0; i < 11; i++) {
+            lits[i] = x.lit();
+            x.go(i % 2);
+        }
+        for (int i = 10; i >= 3; i--) {
+            Due.is("place ahead of minute " + i, x.back(), (i + 1) / 2);
+            Due.is("minute", x.count(3), i);
+            Due.is("lit", x.lit(), lits[i]);
+        }
+        Due.is("the fourth is the oldest", x.back(), -3);
+        Due.is("four are lit then", x.lit(), 15);
+    }
+
     @Says(promise = 38, sentence = "(by go() alone)")
     static void aRoadsMinutesAreNotTakenBack() {
         LitAgain x = Due.told("p001;m0;m1;");

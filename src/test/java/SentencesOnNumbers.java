@@ -110,6 +110,8 @@ final class SentencesOnNumbers {
         chance(Due.told("p001;w0042;w0142;w0242;"), 3, 0, 343, 1000);
         chance(Due.told("p001;w0042;w0142;w0242;"), 2, 0, 49, 100);
         chance(Due.told("p001;w0042;"), 0, 0, 1, 1);
+        chance(Due.told("p001;w0042;w0152;w0262;"), 2, 0, 21, 50);
+        chance(Due.told("p001;w0042;w0152;w0262;"), 3, 0, 21, 100);
     }
 
     @Says(promise = 31, sentence = "how many are in the mean: fractions in least terms.")
@@ -118,8 +120,6 @@ final class SentencesOnNumbers {
         chance(Due.told("p001;p600;p001;w0062;"), 1, 1, 1, 1);
         chance(Due.told("p000;"), 2, 0, 0, 1);
         chance(Due.told("p000;"), 2, 1, 0, 1);
-        // the greatest: eight tenths of each of four who cannot light one another, three times
-        chance(Due.told("p001;w0012;"), 3, 1, 1, 1);
     }
 
     @Says(promise = 31, sentence = "Refused as told: -4; -6 3; -2 either; -3 more than 4, fewer MINUTES to the DOOR.")
@@ -181,6 +181,8 @@ final class SentencesOnNumbers {
         Due.is("small: not lit", small.wax(0), 1);
         Due.is("small: not lit", small.wax(1), 0);
         Due.is("a small one is never lit", withRow("p600;d01;", 0).wax(0), 0);
+        Due.is("it would go out, but is never lit", withRow("p600;w0092;d01;", 1).wax(0), 1);
+        Due.is("it would go out as the other one", withRow("p600;p000;w0092;d01;", 1, 1).wax(0), 2);
         LitAgain none = withRow("p000;d01;", 99);
         Due.is("none", none.wax(0), 0);
         Due.is("none, the least", none.wax(1), -9);

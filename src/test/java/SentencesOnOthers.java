@@ -17,6 +17,8 @@ final class SentencesOnOthers {
         Due.is("nobody", new LitAgain().lower(), -9);
         Due.is("the most", Due.told("p600;p001;p600;p000;d02;f02;").lower(), 2);
         Due.is("then the least", Due.told("p600;p001;p600;d02;f02;").lower(), 0);
+        // by either both are LIT at the DOOR; but 1 leaves the TALL one's light
+        Due.is("the most light, not the most people", Due.told("p491;p091;w0272;d03;").lower(), 1);
         Due.is("the last of eight", Due.told(Due.many(6, "p001;") + "p001;p600;d01;").lower(), 7);
         Due.is("no minute", Due.told("p001;p600;d01;m0;").lower(), -9);
     }
@@ -27,6 +29,8 @@ final class SentencesOnOthers {
     static void whatTheTwoChange() {
         // foremost, the TALL one covers the WALKER, who lights it again
         Due.is("kinds", Due.told("p001;p401;w0050;d01;").changed(), 1);
+        // 5 of the NUN's figure 2 would hold, 4 of the TALL one's 0 does not
+        Due.is("figures go with their kinds", Due.told("p501;p421;w0052;d01;").changed(), -9);
         Due.is("the dark one comes beside the lit one", Due.told(Due.many(5, "p600;") + "p001;p600;p000;d01;").changed(), 47);
     }
 
@@ -68,7 +72,10 @@ final class SentencesOnOthers {
         Due.is("two are lit in each order", Due.told("p000;p000;p001;d01;").order(1), 2);
         Due.is("in the middle both are lit", Due.told("p001;p000;p000;d01;f02;").order(0), 201);
         Due.is("in the middle both are lit", Due.told("p001;p000;p000;d01;f02;").order(1), 3);
-        Due.is("the last of 720", Due.told("p001;p011;p021;p031;p041;p051;d01;").order(0), 543210);
+        Due.is("the lit one second", Due.told("p001;p000;p000;p000;d01;f02;").order(0), 3201);
+        Due.is("the lit one second of six", Due.told("p001;" + Due.many(5, "p000;") + "d01;f02;").order(0), 543201);
+        Due.is("figures go with their kinds", Due.told("p501;p421;w0052;d01;").order(1), 0);
+        Due.is("all 720 alike", Due.told("p001;p011;p021;p031;p041;p051;d01;").order(0), 543210);
     }
 
     // ---- promise 23
@@ -117,6 +124,7 @@ final class SentencesOnOthers {
         Due.is("the least", least.fewest(1), 1);
         LitAgain middle = Due.told("p000;p000;p000;w0092;d01;f02;");
         Due.is("one, though 0 and 1 would do, too", middle.fewest(1), 2);
+        Due.is("2 alone, though 0 and 1 have less bits", Due.told("p000;p000;p000;p000;d02;").fewest(1), 4);
         LitAgain four = Due.told("p000;p000;p000;p000;w0092;d01;f02;");
         Due.is("two", four.fewest(0), 2);
         Due.is("the least two: 0 and 2", four.fewest(1), 5);
@@ -140,6 +148,7 @@ final class SentencesOnOthers {
         Due.is("from behind", Due.told("p001;p201;p600;w0042;d01;").sides(), 0);
         Due.is("from behind", Due.told("p001;p401;w0050;d01;f01;").sides(), 1);
         Due.is("at all places", Due.told("p001;p401;w0050;w0152;d02;").sides(), 1);
+        Due.is("at all places, not at the first alone", Due.told("p461;p490;w0162;d02;").sides(), 0);
     }
 
     // ---- promise 41
@@ -155,6 +164,8 @@ final class SentencesOnOthers {
         LitAgain all = Due.told(Due.many(8, "p000;") + "d01;m0;");
         Due.is("all at the door", all.atFirst(0), 8);
         Due.is("all at the door, the set", all.atFirst(1), 255);
+        Due.is("who is lit now is not, if others are", Due.told("p001;p001;d12;").atFirst(0), 1);
+        Due.is("a small one goes out later, but may not be one", Due.told("p600;p090;w0162;d02;").atFirst(1), 2);
         LitAgain small = Due.told("p600;p000;p600;p000;d12;");
         Due.is("not small ones", small.atFirst(0), 2);
         Due.is("not small ones, the set", small.atFirst(1), 10);
@@ -190,6 +201,7 @@ final class SentencesOnOthers {
         Due.is("a ring, one", Due.told("p001;p600;p000;d01;").forms(0), 11);
         Due.is("pairs, one", Due.told("p001;p600;p000;p600;d01;").forms(0), 21);
         Due.is("how many", Due.told("p001;p600;p000;p600;d01;").forms(1), 2);
+        Due.is("a row, two, or a ring, one", Due.told("p000;p001;p000;p000;d02;").forms(0), 2);
         Due.is("pairs, two", Due.told("p600;p000;p001;p000;p600;d01;").forms(0), 2);
         Due.is("pairs, two", Due.told("p000;p600;p001;p600;p000;d01;").forms(0), 22);
     }
@@ -226,7 +238,8 @@ final class SentencesOnOthers {
         Due.is("the middle one stays", Due.told("p600;p001;p600;").turned(), 1);
         // turned, the WALKER is behind the TALL one and lights it again
         Due.is("kinds go", Due.told("p001;p401;w0050;d01;").turned(), 2);
-        Due.is("figures go", Due.told("p001;p600;p091;w0060;d01;").turned(), 1);
+        Due.is("figures go with their kinds", Due.told("p501;p421;w0052;d01;").turned(), 0);
+        Due.is("figures go", Due.told("p031;p001;w0050;d01;").turned(), 2);
         Due.is("lit goes", Due.told("p001;p000;p600;d01;").turned(), 2);
         Due.is("lit goes", Due.told("p001;p600;p000;d01;").turned(), 1);
         Due.is("at the door", Due.told("p001;p000;p000;d01;m0;").turned(), 2);
@@ -241,6 +254,12 @@ final class SentencesOnOthers {
         Due.is("the first form with more", Due.told("p120;p620;p541;w0041;d01;f12;").game(0), 10);
         Due.is("pairs", Due.told("p680;p401;p190;p061;w0040;d01;f22;").game(0), 20);
         Due.is("the first side with fewer", Due.told("p471;p051;p541;w0062;d01;f01;").game(0), 1);
+        // from the front and from behind one TALL one covers the other, across nobody holds
+        Due.is("across", Due.told("p401;p401;w0050;d01;").game(0), 2);
+        // a ROW has 1, 3, 1 by the sides, a RING 2, 3, 2, PAIRS 2, 2, 2
+        Due.is("the first of two forms with two", Due.told("p401;p490;p680;p201;w0032;d01;").game(0), 10);
+        // from behind a ROW is dark, a RING is not: the people would choose it
+        Due.is("not what the people better", Due.told("p401;p060;w0162;d02;").game(0), 2);
     }
 
     @Says(promise = 49, sentence = "SURE: the greatest number that they can have whatever SIDE comes; KNOWN: the least number that the wind can bring about")
@@ -253,6 +272,15 @@ final class SentencesOnOthers {
         LitAgain two = Due.told("p471;p051;p541;w0062;d01;f01;");
         Due.is("not the most of a side", two.game(1), 2);
         Due.is("not the most of a side", two.game(2), 2);
+        LitAgain across = Due.told("p401;p401;w0050;d01;");
+        Due.is("nobody across, sure", across.game(1), 0);
+        Due.is("nobody across, known", across.game(2), 0);
+        Due.is("by a ROW alone, sure", Due.told("p000;p590;p291;w0182;d02;").game(1), 2);
+        Due.is("by a ROW alone, known", Due.told("p000;p590;p291;w0182;d02;").game(2), 2);
+        Due.is("by a RING alone, sure", Due.told("p500;p190;p391;f22;d01;").game(1), 3);
+        Due.is("by a RING alone, known", Due.told("p500;p190;p391;f22;d01;").game(2), 3);
+        Due.is("by PAIRS alone, sure", Due.told("p600;p001;p690;p090;d04;").game(1), 2);
+        Due.is("by PAIRS alone, known", Due.told("p600;p001;p690;p090;d04;").game(2), 2);
     }
 
     @Says(promise = 49, sentence = "A GAME (what 0; -9), SURE (1), KNOWN (2). -2.")

@@ -48,6 +48,8 @@ final class SentencesOnPlans {
         Due.is("two minutes are no better", Due.told("p001;p000;p000;d01;").stop(), 1);
         Due.is("the first place", Due.told("p001;p000;p000;p000;p000;d03;").stop(), 1);
         Due.is("two at place 0", Due.told("p001;p000;p000;p000;p000;d02;").stop(), 2);
+        // behind the wind one minute is enough, at place 0 it takes two to light the last LANTERN
+        Due.is("one minute later, ahead of two at once", Due.told("p290;p391;p440;p390;w0182;d03;").stop(), 21);
     }
 
     // ---- promise 25
@@ -216,8 +218,10 @@ final class SentencesOnPlans {
         Due.is("all alike", Due.told("p001;p000;d01;").best(), 0);
         Due.is("most", Due.told("p001;p000;p000;p000;p000;d01;").best(), 2);
         Due.is("in fewer minutes", Due.told("p001;p000;p000;d01;").best(), 1);
-        // rule 2 stops at place 0 in a force of 3, too
-        Due.is("3 in fewer minutes than 2", Due.told("p091;p600;p000;p090;w0030;d02;").best(), 0);
+        // rule 2 stops at place 0 in a force of 4, too
+        Due.is("3 in fewer minutes than 2", Due.told("p091;p000;p000;p000;w0042;d02;").best(), 3);
+        // neither 3 nor 4 stops at place 0, and 3 not ahead of the storm at the door
+        Due.is("4 in fewer minutes than 2", Due.told("p091;p000;p000;p000;w0042;w0132;w0292;d02;").best(), 4);
         Due.is("the least of 2 and 3", Due.told("p001;p000;p000;p000;p000;p000;d01;").best(), 2);
         Due.is("at the door", Due.told("p001;p000;p000;d01;m0;").best(), 0);
     }
@@ -240,6 +244,8 @@ final class SentencesOnPlans {
         Due.is("nobody lit", Due.told("p000;w0042;").calms(0), -9);
         Due.is("as many with it", Due.told("p301;p600;w0092;d02;").calms(0), -9);
         Due.is("the most", Due.told("p091;p000;p000;p000;w0042;w0142;w0242;d03;f01;").calms(0), 2);
+        // were it calm at 1 or at 2, the HOODED one would come to light the LANTERN
+        Due.is("the first of two", Due.told("p031;p190;p390;w0182;w0271;d03;").calms(0), 1);
     }
 
     @Says(promise = 43, sentence = "the pair of unlike ones (100 the lesser and the other) likewise; -9")
@@ -282,6 +288,10 @@ final class SentencesOnPlans {
         // the match comes to 0, who does not hold, though 1 would
         Due.is("the least, though it goes out", Due.told("p000;p300;w0042;d01;").matches(-1), -9);
         Due.is("nobody there", new LitAgain().matches(-1), -9);
+        LitAgain next = Due.told("p001;p600;p300;w0192;d02;");
+        Due.is("0 is lit then: the LANTERN", next.matches(-1), 1);
+        Due.is("0 is lit then: the LANTERN", next.matches(0), 0);
+        Due.is("both are dark then: 0, who does not hold", Due.told("p231;p290;w0290;w0362;d04;").matches(-1), -9);
     }
 
     @Says(promise = 52, sentence = "the fewest matches (0 .. 3) by which somebody is LIT at the DOOR; -9")

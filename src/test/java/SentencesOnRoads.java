@@ -188,6 +188,7 @@ final class SentencesOnRoads {
     static void doorOfARoad() {
         Due.is("least", Due.told("d01;").count(6), 1);
         Due.is("greatest", Due.told("d24;").count(6), 24);
+        Due.is("0 at place 0", Due.tell(new LitAgain(), "d00;"), -2000);
         fault("d00;", -2000);
         fault("d25;", -2000);
         fault("d99;", -2000);
