@@ -1,3 +1,7 @@
+import java.util.ArrayList;
+import java.util.List;
+import java.util.function.ToLongFunction;
+
 /** What comes if all walk on: who is LIT, dark, lit by whom, whose light, how often, how wide a gap. */
 final class SentencesInMind {
     private SentencesInMind() { }
@@ -22,12 +26,17 @@ final class SentencesInMind {
         Due.is("then(24)", x.then(24), 7);
         LitAgain there = Due.told("p001;p000;p000;d01;m0;");
         Due.is("then(1) at the door", there.then(1), 3);
+        Due.is("nobody there", new LitAgain().then(24), 0);
     }
 
     @Says(promise = 14, sentence = "THEN (bits). -4; -6 24.")
-    static void whatThenRefuses() {
+    static void thenRefusesBelow() {
         Due.refused("then(-1)", x -> x.then(-1), -4);
         Due.refused("then(least)", x -> x.then(Integer.MIN_VALUE), -4);
+    }
+
+    @Says(promise = 14, sentence = "THEN (bits). -4; -6 24.")
+    static void thenRefusesRoom() {
         Due.refused("then(25)", x -> x.then(25), -6);
         Due.refused("then(greatest)", x -> x.then(Integer.MAX_VALUE), -6);
     }
@@ -48,6 +57,58 @@ final class SentencesInMind {
         Due.alike("asking", x, Due.amidst());
     }
 
+    private static List<ToLongFunction<LitAgain>> allInMind() {
+        List<ToLongFunction<LitAgain>> all = new ArrayList<>(List.of(
+            LitAgain::stop, LitAgain::lower, LitAgain::changed, LitAgain::match, LitAgain::tail, LitAgain::best,
+            LitAgain::sides, LitAgain::all, LitAgain::farthest, LitAgain::turned, LitAgain::again,
+            x -> x.then(2), x -> x.behind(2), x -> x.game(0), x -> x.game(1), x -> x.chances(2, 1, 0), x -> x.seeds(7, 7, 0)));
+        for (int i = 0; i < 2; i++) {
+            int what = i;
+            all.addAll(List.of(
+                x -> x.door(what), x -> x.dark(what), x -> x.order(what), x -> x.lantern(what), x -> x.fewest(what),
+                x -> x.atFirst(what), x -> x.forms(what), x -> x.calms(what), x -> x.gaps(what), x -> x.wax(what)));
+        }
+        for (int i = 0; i < 4; i++) {
+            int one = i;
+            all.addAll(List.of(
+                x -> x.darkFor(one), x -> x.litBy(one, 9), x -> x.flame(one), x -> x.out(one), x -> x.heirs(one),
+                x -> x.rule(one, 1), x -> x.matches(one - 1)));
+        }
+        return all;
+    }
+
+    /** Another state, without a ROAD. */
+    private static void change(LitAgain x) {
+        x.kind(0, 0, 9);
+        x.kind(2, 5, 4);
+        x.light(3, 1);
+        x.light(1, 0);
+        x.blows(1, 5, 1);
+        x.blows(2, 7, 2);
+        x.set(0, 1);
+        x.set(2, 4);
+        x.go(0);
+        for (int i = 0; i < 4; i++) x.row(i % 2);
+    }
+
+    @Says(promise = 14, sentence = "all walking on from now")
+    static void fromNowWhateverWasAskedBefore() {
+        String road = "p401;p001;p600;p090;w0050;w0192;w0392;f22;d09;";
+        List<ToLongFunction<LitAgain>> all = allInMind();
+        LitAgain asked = Due.told(road);
+        for (ToLongFunction<LitAgain> call : all) call.applyAsLong(asked);
+        change(asked);
+        for (int i = 0; i < all.size(); i++) {
+            LitAgain fresh = Due.told(road);
+            change(fresh);
+            long due = all.get(i).applyAsLong(fresh);
+            asked.game(0);
+            Due.is("call " + i + " of allInMind, behind a game", all.get(i).applyAsLong(asked), due);
+            asked.lower();
+            Due.is("call " + i + " of allInMind, behind others", all.get(i).applyAsLong(asked), due);
+        }
+    }
+
     // ---- promise 15
 
     @Says(promise = 15, sentence = "AT DOOR: who is LIT there; how many; LIGHT there (GIVES of all LIT).")
@@ -64,7 +125,7 @@ final class SentencesInMind {
     }
 
     @Says(promise = 15, sentence = "who (what 0, bits), how many (1), LIGHT (2). -2.")
-    static void whatDoorRefuses() {
+    static void doorRefusesOther() {
         Due.refused("door(3)", x -> x.door(3), -2);
         Due.refused("door(-1)", x -> x.door(-1), -2);
     }
@@ -93,7 +154,7 @@ final class SentencesInMind {
     }
 
     @Says(promise = 16, sentence = "DARK: the first (what 0; -9), the greatest number (1). -2.")
-    static void whatDarkRefuses() {
+    static void darkRefusesOther() {
         Due.refused("dark(2)", x -> x.dark(2), -2);
         Due.refused("dark(-1)", x -> x.dark(-1), -2);
     }
@@ -112,7 +173,7 @@ final class SentencesInMind {
     }
 
     @Says(promise = 17, sentence = "At how many MINUTES' ends one is not LIT. -1.")
-    static void whatDarkForRefuses() {
+    static void darkForRefusesNobody() {
         Due.refused("darkFor(4)", x -> x.darkFor(4), -1);
         Due.refused("darkFor(-1)", x -> x.darkFor(-1), -1);
         Due.refused("darkFor(0) of nobody", LitAgain::new, x -> x.darkFor(0), -1);
@@ -153,13 +214,25 @@ final class SentencesInMind {
     }
 
     @Says(promise = 18, sentence = "LIT BY; -9. -1; -4; -6 24.")
-    static void whatLitByRefuses() {
+    static void litByRefusesNobody() {
         Due.refused("litBy(4, 0)", x -> x.litBy(4, 0), -1);
         Due.refused("litBy(-1, 0)", x -> x.litBy(-1, 0), -1);
-        Due.refused("litBy(0, -1)", x -> x.litBy(0, -1), -4);
-        Due.refused("litBy(0, 25)", x -> x.litBy(0, 25), -6);
         Due.refused("litBy(4, -1)", x -> x.litBy(4, -1), -1);
         Due.refused("litBy(4, 25)", x -> x.litBy(4, 25), -1);
+    }
+
+    @Says(promise = 18, sentence = "LIT BY; -9. -1; -4; -6 24.")
+    static void litByRefusesBelow() {
+        Due.refused("litBy(0, -1)", x -> x.litBy(0, -1), -4);
+    }
+
+    @Says(promise = 18, sentence = "LIT BY; -9. -1; -4; -6 24.")
+    static void litByRefusesRoom() {
+        Due.refused("litBy(0, 25)", x -> x.litBy(0, 25), -6);
+    }
+
+    @Says(promise = 18, sentence = "LIT BY; -9. -1; -4; -6 24.")
+    static void within24MinutesIsNotRefused() {
         Due.is("litBy(0, 24)", Due.amidst().litBy(0, 24), -9);
     }
 
@@ -201,7 +274,7 @@ final class SentencesInMind {
     }
 
     @Says(promise = 46, sentence = "FLAME; -9. -1.")
-    static void whatFlameRefuses() {
+    static void flameRefusesNobody() {
         Due.refused("flame(4)", x -> x.flame(4), -1);
         Due.refused("flame(-1)", x -> x.flame(-1), -1);
         Due.refused("flame(0) of nobody", LitAgain::new, x -> x.flame(0), -1);
@@ -218,11 +291,16 @@ final class SentencesInMind {
         LitAgain all = Due.told("p001;p301;d24;");
         for (int place = 0; place <= 24; place++) all.blows(place, 4, 2);
         Due.is("each minute of 24", all.out(0), 24);
+        Due.is("lit again as often", all.again(), 24);
         Due.is("at the door", Due.told("p001;w0192;d01;m0;").out(0), 0);
+        LitAgain nearer = Due.told("p001;w0192;d02;");
+        Due.is("ahead of the door", nearer.out(0), 1);
+        nearer.set(2, 1);
+        Due.is("the wind is the door's now", nearer.out(0), 0);
     }
 
     @Says(promise = 47, sentence = "WENT OUT. -1.")
-    static void whatOutRefuses() {
+    static void outRefusesNobody() {
         Due.refused("out(4)", x -> x.out(4), -1);
         Due.refused("out(-1)", x -> x.out(-1), -1);
         Due.refused("out(0) of nobody", LitAgain::new, x -> x.out(0), -1);
@@ -271,6 +349,10 @@ final class SentencesInMind {
         Due.is("nobody", new LitAgain().gaps(1), -9);
         Due.is("no minute", Due.told("p000;d01;m0;").gaps(1), -9);
         Due.is("no minute, how many", Due.told("p000;d01;m0;").gaps(0), 0);
+    }
+
+    @Says(promise = 51, sentence = "GAPS: how many (what 0), the first MINUTE (1; -9). -2.")
+    static void gapsRefusesOther() {
         Due.refused("gaps(2)", x -> x.gaps(2), -2);
         Due.refused("gaps(-1)", x -> x.gaps(-1), -2);
     }

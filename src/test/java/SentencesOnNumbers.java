@@ -25,15 +25,19 @@ final class SentencesOnNumbers {
     }
 
     @Says(promise = 29, sentence = "-4 (n below 1, m below 0); -6 99.")
-    static void whatCalmRefuses() {
+    static void calmRefusesBelow() {
         Due.refused("calm(0, 0)", x -> x.calm(0, 0), -4);
         Due.refused("calm(least, 0)", x -> x.calm(Integer.MIN_VALUE, 0), -4);
         Due.refused("calm(1, -1)", x -> x.calm(1, -1), -4);
-        Due.refused("calm(100, 0)", x -> x.calm(100, 0), -6);
-        Due.refused("calm(1, 100)", x -> x.calm(1, 100), -6);
         Due.refused("calm(0, 100)", x -> x.calm(0, 100), -4);
         Due.refused("calm(100, -1)", x -> x.calm(100, -1), -4);
         Due.refused("calm(0, -1), counted once", x -> x.calm(0, -1), -4);
+    }
+
+    @Says(promise = 29, sentence = "-4 (n below 1, m below 0); -6 99.")
+    static void calmRefusesRoom() {
+        Due.refused("calm(100, 0)", x -> x.calm(100, 0), -6);
+        Due.refused("calm(1, 100)", x -> x.calm(1, 100), -6);
         Due.refused("calm(100, 100), counted once", x -> x.calm(100, 100), -6);
         Due.refused("calm(greatest, greatest)", x -> x.calm(Integer.MAX_VALUE, Integer.MAX_VALUE), -6);
     }
@@ -54,17 +58,25 @@ final class SentencesOnNumbers {
     }
 
     @Says(promise = 30, sentence = "-4 (n below 1, k below 0); -6 (99 either); -1 k is n or more.")
-    static void whatSpreadsRefuses() {
+    static void spreadsRefusesBelow() {
         Due.refused("spreads(0, 0)", x -> x.spreads(0, 0), -4);
         Due.refused("spreads(1, -1)", x -> x.spreads(1, -1), -4);
+        Due.refused("spreads(0, 100)", x -> x.spreads(0, 100), -4);
+        Due.refused("spreads(100, -1)", x -> x.spreads(100, -1), -4);
+    }
+
+    @Says(promise = 30, sentence = "-4 (n below 1, k below 0); -6 (99 either); -1 k is n or more.")
+    static void spreadsRefusesRoom() {
         Due.refused("spreads(100, 0)", x -> x.spreads(100, 0), -6);
         Due.refused("spreads(5, 100)", x -> x.spreads(5, 100), -6);
+        Due.refused("spreads(100, 100)", x -> x.spreads(100, 100), -6);
+    }
+
+    @Says(promise = 30, sentence = "-4 (n below 1, k below 0); -6 (99 either); -1 k is n or more.")
+    static void spreadsRefusesNobody() {
         Due.refused("spreads(5, 5)", x -> x.spreads(5, 5), -1);
         Due.refused("spreads(5, 6)", x -> x.spreads(5, 6), -1);
         Due.refused("spreads(99, 99)", x -> x.spreads(99, 99), -1);
-        Due.refused("spreads(0, 100)", x -> x.spreads(0, 100), -4);
-        Due.refused("spreads(100, -1)", x -> x.spreads(100, -1), -4);
-        Due.refused("spreads(100, 100)", x -> x.spreads(100, 100), -6);
     }
 
     // ---- promise 31
@@ -123,13 +135,25 @@ final class SentencesOnNumbers {
     }
 
     @Says(promise = 31, sentence = "Refused as told: -4; -6 3; -2 either; -3 more than 4, fewer MINUTES to the DOOR.")
-    static void whatChancesRefuses() {
+    static void chancesRefusesBelow() {
         Due.refused("chances(-1, 0, 0)", x -> x.chances(-1, 0, 0), -4);
+    }
+
+    @Says(promise = 31, sentence = "Refused as told: -4; -6 3; -2 either; -3 more than 4, fewer MINUTES to the DOOR.")
+    static void chancesRefusesRoom() {
         Due.refused("chances(4, 0, 0)", x -> x.chances(4, 0, 0), -6);
+    }
+
+    @Says(promise = 31, sentence = "Refused as told: -4; -6 3; -2 either; -3 more than 4, fewer MINUTES to the DOOR.")
+    static void chancesRefusesOther() {
         Due.refused("chances(0, 2, 0)", x -> x.chances(0, 2, 0), -2);
         Due.refused("chances(0, -1, 0)", x -> x.chances(0, -1, 0), -2);
         Due.refused("chances(0, 0, 2)", x -> x.chances(0, 0, 2), -2);
         Due.refused("chances(0, 0, -1)", x -> x.chances(0, 0, -1), -2);
+    }
+
+    @Says(promise = 31, sentence = "Refused as told: -4; -6 3; -2 either; -3 more than 4, fewer MINUTES to the DOOR.")
+    static void chancesRefusesState() {
         Due.refused("five", () -> Due.told(Due.many(5, "p000;")), x -> x.chances(0, 0, 0), -3);
         Due.refused("two minutes to the door", () -> Due.told("p001;d02;"), x -> x.chances(3, 0, 0), -3);
         Due.refused("at the door", () -> Due.told("p001;d01;m0;"), x -> x.chances(1, 0, 0), -3);
@@ -207,6 +231,10 @@ final class SentencesOnNumbers {
         Due.refused("none", () -> Due.told("p000;"), x -> x.wax(0), -3);
         Due.refused("one of nobody", () -> withRow("d01;", 0), x -> x.wax(0), -3);
         Due.refused("twelve of eight", () -> withRow(Due.many(8, "p000;"), 0, 0, 0, 0, 0, 0, 0, 0, 0, 0, 0, 0), x -> x.wax(0), -3);
+    }
+
+    @Says(promise = 32, sentence = "the least (1; -9) (it stays). -2; -3 it has not as many as PEOPLE.")
+    static void waxRefusesOther() {
         Due.refused("wax(2)", x -> x.wax(2), -2);
         Due.refused("wax(-1)", x -> x.wax(-1), -2);
         Due.refused("wax(2) of nobody", LitAgain::new, x -> x.wax(2), -2);
@@ -229,10 +257,18 @@ final class SentencesOnNumbers {
         LitAgain x = new LitAgain();
         Due.is("row(0)", x.row(0), 1);
         Due.is("row(99)", x.row(99), 2);
-        Due.refused("row(-1)", y -> y.row(-1), -4);
-        Due.refused("row(least)", y -> y.row(Integer.MIN_VALUE), -4);
-        Due.refused("row(100)", y -> y.row(100), -6);
-        Due.refused("row(greatest)", y -> y.row(Integer.MAX_VALUE), -6);
+    }
+
+    @Says(promise = 34, sentence = "A number more of the ROW: how many. -4;")
+    static void rowRefusesBelow() {
+        Due.refused("row(-1)", x -> x.row(-1), -4);
+        Due.refused("row(least)", x -> x.row(Integer.MIN_VALUE), -4);
+    }
+
+    @Says(promise = 34, sentence = "-6 (99; 12, too).")
+    static void rowRefusesRoom() {
+        Due.refused("row(100)", x -> x.row(100), -6);
+        Due.refused("row(greatest)", x -> x.row(Integer.MAX_VALUE), -6);
     }
 
     @Says(promise = 34, sentence = "A ROW of numbers (0 .. 99; 12 at most)")
@@ -308,17 +344,26 @@ final class SentencesOnNumbers {
         Due.is("one dark", dark.seeds(1, 5, 1), 1);
         Due.is("twenty dark", dark.seeds(20, 5, 1), 20);
         Due.is("nobody lit", dark.seeds(20, 5, 0), 0);
+        Due.is("nobody there", new LitAgain().seeds(20, 5, 1), 20);
     }
 
     @Says(promise = 37, sentence = "SEEDS: LIT (what 0), nights (1). -4; -6 20; -2.")
-    static void whatSeedsRefuses() {
+    static void seedsRefusesBelow() {
         Due.refused("seeds(0, 1, 0)", x -> x.seeds(0, 1, 0), -4);
         Due.refused("seeds(least, 1, 0)", x -> x.seeds(Integer.MIN_VALUE, 1, 0), -4);
+        Due.refused("seeds(0, 1, 2)", x -> x.seeds(0, 1, 2), -4);
+    }
+
+    @Says(promise = 37, sentence = "SEEDS: LIT (what 0), nights (1). -4; -6 20; -2.")
+    static void seedsRefusesRoom() {
         Due.refused("seeds(21, 1, 0)", x -> x.seeds(21, 1, 0), -6);
+        Due.refused("seeds(21, 1, 2)", x -> x.seeds(21, 1, 2), -6);
+    }
+
+    @Says(promise = 37, sentence = "SEEDS: LIT (what 0), nights (1). -4; -6 20; -2.")
+    static void seedsRefusesOther() {
         Due.refused("seeds(1, 1, 2)", x -> x.seeds(1, 1, 2), -2);
         Due.refused("seeds(1, 1, -1)", x -> x.seeds(1, 1, -1), -2);
-        Due.refused("seeds(0, 1, 2)", x -> x.seeds(0, 1, 2), -4);
-        Due.refused("seeds(21, 1, 2)", x -> x.seeds(21, 1, 2), -6);
     }
 
     /** The nights told again, with blows() for each PLACE and door() for what comes. */
@@ -393,9 +438,18 @@ final class SentencesOnNumbers {
         Due.is("behind(1)", x.behind(1), 3);
         Due.is("behind(2), farther than the door", x.behind(2), 7);
         Due.is("behind(60)", x.behind(60), 7);
-        Due.refused("behind(-1)", y -> y.behind(-1), -4);
-        Due.refused("behind(least)", y -> y.behind(Integer.MIN_VALUE), -4);
-        Due.refused("behind(61)", y -> y.behind(61), -6);
-        Due.refused("behind(greatest)", y -> y.behind(Integer.MAX_VALUE), -6);
+        Due.is("nobody there", new LitAgain().behind(60), 0);
+    }
+
+    @Says(promise = 40, sentence = "WITHOUT WIND behind n (bits). -4;")
+    static void behindRefusesBelow() {
+        Due.refused("behind(-1)", x -> x.behind(-1), -4);
+        Due.refused("behind(least)", x -> x.behind(Integer.MIN_VALUE), -4);
+    }
+
+    @Says(promise = 40, sentence = "WITHOUT WIND behind n (bits). -4; -6 60.")
+    static void behindRefusesRoom() {
+        Due.refused("behind(61)", x -> x.behind(61), -6);
+        Due.refused("behind(greatest)", x -> x.behind(Integer.MAX_VALUE), -6);
     }
 }

@@ -58,7 +58,7 @@ final class SentencesOnOthers {
     }
 
     @Says(promise = 22, sentence = "BEST ORDER: digits (what 0), how many (1). -2; -3 nobody, more than 6.")
-    static void whatOrderRefuses() {
+    static void orderRefusesOther() {
         Due.refused("order(2)", x -> x.order(2), -2);
         Due.refused("order(-1)", x -> x.order(-1), -2);
         Due.refused("order(2) of nobody", LitAgain::new, x -> x.order(2), -2);
@@ -73,6 +73,8 @@ final class SentencesOnOthers {
         Due.is("in the middle both are lit", Due.told("p001;p000;p000;d01;f02;").order(0), 201);
         Due.is("in the middle both are lit", Due.told("p001;p000;p000;d01;f02;").order(1), 3);
         Due.is("the lit one second", Due.told("p001;p000;p000;p000;d01;f02;").order(0), 3201);
+        Due.is("as they are, at the door", Due.told("p001;p000;p000;d01;m0;").order(0), 210);
+        Due.is("how many, at the door", Due.told("p001;p000;p000;d01;m0;").order(1), 2);
         Due.is("the lit one second of six", Due.told("p001;" + Due.many(5, "p000;") + "d01;f02;").order(0), 543201);
         Due.is("figures go with their kinds", Due.told("p501;p421;w0052;d01;").order(1), 0);
         Due.is("all 720 alike", Due.told("p001;p011;p021;p031;p041;p051;d01;").order(0), 543210);
@@ -93,12 +95,20 @@ final class SentencesOnOthers {
     }
 
     @Says(promise = 23, sentence = "LANTERN: who (what 0), how many (1). -2; -3 nobody is there.")
-    static void whatLanternRefuses() {
+    static void lanternRefusesOther() {
         Due.refused("lantern(2)", x -> x.lantern(2), -2);
         Due.refused("lantern(-1)", x -> x.lantern(-1), -2);
+        Due.refused("lantern(2) of nobody", LitAgain::new, x -> x.lantern(2), -2);
+    }
+
+    @Says(promise = 23, sentence = "LANTERN: who (what 0), how many (1). -2; -3 nobody is there.")
+    static void lanternRefusesState() {
         Due.refused("lantern(0) of nobody", LitAgain::new, x -> x.lantern(0), -3);
         Due.refused("lantern(1) of nobody", LitAgain::new, x -> x.lantern(1), -3);
-        Due.refused("lantern(2) of nobody", LitAgain::new, x -> x.lantern(2), -2);
+    }
+
+    @Says(promise = 23, sentence = "LANTERN: who (what 0), how many (1). -2; -3 nobody is there.")
+    static void aLanternAlone() {
         Due.is("one alone", Due.told("p000;").lantern(0), 0);
     }
 
@@ -112,6 +122,7 @@ final class SentencesOnOthers {
         Due.is("nobody there", new LitAgain().fewest(0), 0);
         Due.is("nobody there, the set", new LitAgain().fewest(1), 0);
         Due.is("small ones alone", Due.told("p600;p600;").fewest(0), 0);
+        Due.is("all are lit, at the door", Due.told("p001;p600;d01;m0;").fewest(0), 0);
         LitAgain all = Due.told(Due.many(8, "p000;") + "d01;m0;");
         Due.is("all eight at the door", all.fewest(0), 8);
         Due.is("all eight at the door, the set", all.fewest(1), 255);
@@ -131,7 +142,7 @@ final class SentencesOnOthers {
     }
 
     @Says(promise = 24, sentence = "FEWEST LANTERNS: how many (what 0), the set (1); -9. -2.")
-    static void whatFewestRefuses() {
+    static void fewestRefusesOther() {
         Due.refused("fewest(2)", x -> x.fewest(2), -2);
         Due.refused("fewest(-1)", x -> x.fewest(-1), -2);
     }
@@ -144,6 +155,7 @@ final class SentencesOnOthers {
         Due.is("no wind", Due.told("p001;p000;").sides(), 0);
         Due.is("all alike", Due.told("p001;w0092;d01;").sides(), 0);
         // 4 behind a LOW is not held, 4 ahead of a WALKER is; the LOW holds 4 anywhere
+        Due.is("at the door", Due.told("p001;p401;w0152;d01;m0;").sides(), 0);
         Due.is("from the front", Due.told("p201;p001;w0042;w0142;d02;").sides(), 0);
         Due.is("from behind", Due.told("p001;p201;p600;w0042;d01;").sides(), 0);
         Due.is("from behind", Due.told("p001;p401;w0050;d01;f01;").sides(), 1);
@@ -183,7 +195,7 @@ final class SentencesOnOthers {
     }
 
     @Says(promise = 41, sentence = "ENOUGH AT FIRST: how many (what 0), the set (1); -9. -2.")
-    static void whatAtFirstRefuses() {
+    static void atFirstRefusesOther() {
         Due.refused("atFirst(2)", x -> x.atFirst(2), -2);
         Due.refused("atFirst(-1)", x -> x.atFirst(-1), -2);
     }
@@ -195,6 +207,8 @@ final class SentencesOnOthers {
         Due.is("nobody", new LitAgain().forms(0), 1);
         Due.is("nobody, how many", new LitAgain().forms(1), 0);
         Due.is("all alike", Due.told("p001;f22;").forms(0), 1);
+        Due.is("at the door", Due.told("p001;p000;p000;d01;m0;").forms(0), 1);
+        Due.is("how many, at the door", Due.told("p001;p000;p000;d01;m0;").forms(1), 2);
         Due.is("a row, two", Due.told("p000;p001;p000;d01;").forms(0), 2);
         Due.is("a ring, two", Due.told("p001;p000;p000;d01;").forms(0), 12);
         Due.is("pairs, one", Due.told("p301;p600;p301;p300;d01;").forms(0), 1);
@@ -207,7 +221,7 @@ final class SentencesOnOthers {
     }
 
     @Says(promise = 42, sentence = "FORMS: it (what 0), how many (1). -2.")
-    static void whatFormsRefuses() {
+    static void formsRefusesOther() {
         Due.refused("forms(2)", x -> x.forms(2), -2);
         Due.refused("forms(-1)", x -> x.forms(-1), -2);
     }
@@ -251,6 +265,7 @@ final class SentencesOnOthers {
     static void theFirstSteadyPair() {
         Due.is("nobody", new LitAgain().game(0), 0);
         Due.is("all alike", Due.told("p001;p001;f22;").game(0), 0);
+        Due.is("at the door", Due.told("p001;p000;p000;d01;m0;").game(0), 0);
         Due.is("the first form with more", Due.told("p120;p620;p541;w0041;d01;f12;").game(0), 10);
         Due.is("pairs", Due.told("p680;p401;p190;p061;w0040;d01;f22;").game(0), 20);
         Due.is("the first side with fewer", Due.told("p471;p051;p541;w0062;d01;f01;").game(0), 1);
@@ -260,6 +275,17 @@ final class SentencesOnOthers {
         Due.is("the first of two forms with two", Due.told("p401;p490;p680;p201;w0032;d01;").game(0), 10);
         // from behind a ROW is dark, a RING is not: the people would choose it
         Due.is("not what the people better", Due.told("p401;p060;w0162;d02;").game(0), 2);
+    }
+
+    @Says(promise = 49, sentence = "people choose the FORM, the wind one SIDE for all PLACES")
+    static void oneSideForAllPlaces() {
+        // from the front or from behind one TALL one covers the other at place 1, across nobody does
+        LitAgain x = Due.told("p461;p490;w0162;d02;");
+        Due.is("across", x.game(0), 2);
+        LitAgain early = Due.told("p461;p490;w0062;w0160;d02;");
+        Due.is("across", early.game(0), 2);
+        Due.is("the sides stay as they are", early.wind(0, 1) * 10 + early.wind(1, 1), 20);
+        Due.is("the form, too", early.count(4), 0);
     }
 
     @Says(promise = 49, sentence = "SURE: the greatest number that they can have whatever SIDE comes; KNOWN: the least number that the wind can bring about")
@@ -284,7 +310,7 @@ final class SentencesOnOthers {
     }
 
     @Says(promise = 49, sentence = "A GAME (what 0; -9), SURE (1), KNOWN (2). -2.")
-    static void whatGameRefuses() {
+    static void gameRefusesOther() {
         Due.refused("game(3)", x -> x.game(3), -2);
         Due.refused("game(-1)", x -> x.game(-1), -2);
     }
@@ -305,7 +331,7 @@ final class SentencesOnOthers {
     }
 
     @Says(promise = 50, sentence = "HEIRS (bits). -1.")
-    static void whatHeirsRefuses() {
+    static void heirsRefusesNobody() {
         Due.refused("heirs(4)", x -> x.heirs(4), -1);
         Due.refused("heirs(-1)", x -> x.heirs(-1), -1);
         Due.refused("heirs(0) of nobody", LitAgain::new, x -> x.heirs(0), -1);

@@ -201,13 +201,12 @@ final class SentencesOnPlans {
     }
 
     @Says(promise = 27, sentence = "A RULE: LIT (what 0), MINUTES (1). -2 either.")
-    static void whatRuleRefuses() {
+    static void ruleRefusesOther() {
         Due.refused("rule(5, 0)", x -> x.rule(5, 0), -2);
         Due.refused("rule(-1, 0)", x -> x.rule(-1, 0), -2);
         Due.refused("rule(0, 2)", x -> x.rule(0, 2), -2);
         Due.refused("rule(0, -1)", x -> x.rule(0, -1), -2);
         Due.refused("rule(5, 2), counted once", x -> x.rule(5, 2), -2);
-        Due.is("rule(4, 1)", Due.amidst().rule(4, 1), 3);
     }
 
     // ---- promise 28
@@ -241,6 +240,7 @@ final class SentencesOnPlans {
     @Says(promise = 43, sentence = "more than now, of several the first; -9")
     static void aCalmPlaceMustHelp() {
         Due.is("no wind", Due.told("p001;p000;").calms(0), -9);
+        Due.is("nobody there", new LitAgain().calms(0), -9);
         Due.is("nobody lit", Due.told("p000;w0042;").calms(0), -9);
         Due.is("as many with it", Due.told("p301;p600;w0092;d02;").calms(0), -9);
         Due.is("the most", Due.told("p091;p000;p000;p000;w0042;w0142;w0242;d03;f01;").calms(0), 2);
@@ -257,12 +257,14 @@ final class SentencesOnPlans {
         Due.is("one in need, the first pair with it", Due.told("p001;w0042;d03;").calms(1), 1);
         Due.is("from now on", Due.told("p001;m0;w0142;w0242;d03;").calms(1), 102);
         Due.is("not the door's", Due.told("p001;m0;w0142;w0242;d02;").calms(1), -9);
+        Due.is("nobody there", new LitAgain().calms(1), -9);
+        Due.is("at the door", Due.told("p001;w0192;w0292;d01;m0;").calms(1), -9);
         Due.is("three in need", Due.told("p001;w0042;w0142;w0242;d03;").calms(1), -9);
         Due.is("no wind", Due.told("p001;p000;").calms(1), -9);
     }
 
     @Says(promise = 43, sentence = "CALM PLACES: the one (what 0), the pair (1); -9. -2.")
-    static void whatCalmsRefuses() {
+    static void calmsRefusesOther() {
         Due.refused("calms(2)", x -> x.calms(2), -2);
         Due.refused("calms(-1)", x -> x.calms(-1), -2);
     }
@@ -335,9 +337,13 @@ final class SentencesOnPlans {
     }
 
     @Says(promise = 52, sentence = "how many (i -1; -9), the i-th MINUTE (-9). -4 below -1.")
-    static void whatMatchesRefuses() {
+    static void matchesRefusesBelow() {
         Due.refused("matches(-2)", x -> x.matches(-2), -4);
         Due.refused("matches(least)", x -> x.matches(Integer.MIN_VALUE), -4);
+    }
+
+    @Says(promise = 52, sentence = "-4 below -1.")
+    static void matchesAboveTheThirdAreNone() {
         LitAgain x = Due.amidst();
         Due.is("matches(greatest)", x.matches(Integer.MAX_VALUE), -9);
         Due.is("matches(0)", x.matches(0), -9);

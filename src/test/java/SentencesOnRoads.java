@@ -28,10 +28,18 @@ final class SentencesOnRoads {
         Due.is("feed(0)", x.feed(0), 1);
         Due.is("feed(255)", x.feed(255), 2);
         Due.is("count(7)", x.count(7), 2);
-        Due.refused("feed(-1)", y -> y.feed(-1), -4);
-        Due.refused("feed(least)", y -> y.feed(Integer.MIN_VALUE), -4);
-        Due.refused("feed(256)", y -> y.feed(256), -6);
-        Due.refused("feed(greatest)", y -> y.feed(Integer.MAX_VALUE), -6);
+    }
+
+    @Says(promise = 2, sentence = "A letter comes: how many there are. -4;")
+    static void feedRefusesBelow() {
+        Due.refused("feed(-1)", x -> x.feed(-1), -4);
+        Due.refused("feed(least)", x -> x.feed(Integer.MIN_VALUE), -4);
+    }
+
+    @Says(promise = 2, sentence = "-6 (255; 96, too).")
+    static void feedRefusesRoom() {
+        Due.refused("feed(256)", x -> x.feed(256), -6);
+        Due.refused("feed(greatest)", x -> x.feed(Integer.MAX_VALUE), -6);
     }
 
     @Says(promise = 2, sentence = "A ROAD is told in letters, one by one (96 at most)")

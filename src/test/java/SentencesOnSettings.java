@@ -16,12 +16,20 @@ final class SentencesOnSettings {
     }
 
     @Says(promise = 5, sentence = "`int light(int person, int lit)`: LIT (1) or not (0): what it was. -1; -2; -3 SMALL and 1.")
-    static void whatLightRefuses() {
+    static void lightRefusesNobody() {
         Due.refused("light(4, 1)", x -> x.light(4, 1), -1);
         Due.refused("light(-1, 1)", x -> x.light(-1, 1), -1);
         Due.refused("light(8, 0)", x -> x.light(8, 0), -1);
+    }
+
+    @Says(promise = 5, sentence = "`int light(int person, int lit)`: LIT (1) or not (0): what it was. -1; -2; -3 SMALL and 1.")
+    static void lightRefusesOther() {
         Due.refused("light(0, 2)", x -> x.light(0, 2), -2);
         Due.refused("light(0, -1)", x -> x.light(0, -1), -2);
+    }
+
+    @Says(promise = 5, sentence = "`int light(int person, int lit)`: LIT (1) or not (0): what it was. -1; -2; -3 SMALL and 1.")
+    static void lightRefusesState() {
         Due.refused("light(1, 1) of a SMALL one", x -> x.light(1, 1), -3);
     }
 
@@ -69,13 +77,25 @@ final class SentencesOnSettings {
     }
 
     @Says(promise = 6, sentence = "`int kind(int person, int kind, int figure)`: KIND, FIGURE: 10 times the KIND and the FIGURE it had (a SMALL one is not LIT then). -1; -2; -4; -6 9.")
-    static void whatKindRefuses() {
+    static void kindRefusesNobody() {
         Due.refused("kind(4, 0, 0)", x -> x.kind(4, 0, 0), -1);
         Due.refused("kind(-1, 0, 0)", x -> x.kind(-1, 0, 0), -1);
+    }
+
+    @Says(promise = 6, sentence = "`int kind(int person, int kind, int figure)`: KIND, FIGURE: 10 times the KIND and the FIGURE it had (a SMALL one is not LIT then). -1; -2; -4; -6 9.")
+    static void kindRefusesOther() {
         Due.refused("kind(0, 7, 0)", x -> x.kind(0, 7, 0), -2);
         Due.refused("kind(0, -1, 0)", x -> x.kind(0, -1, 0), -2);
+    }
+
+    @Says(promise = 6, sentence = "`int kind(int person, int kind, int figure)`: KIND, FIGURE: 10 times the KIND and the FIGURE it had (a SMALL one is not LIT then). -1; -2; -4; -6 9.")
+    static void kindRefusesBelow() {
         Due.refused("kind(0, 0, -1)", x -> x.kind(0, 0, -1), -4);
         Due.refused("kind(0, 0, least)", x -> x.kind(0, 0, Integer.MIN_VALUE), -4);
+    }
+
+    @Says(promise = 6, sentence = "`int kind(int person, int kind, int figure)`: KIND, FIGURE: 10 times the KIND and the FIGURE it had (a SMALL one is not LIT then). -1; -2; -4; -6 9.")
+    static void kindRefusesRoom() {
         Due.refused("kind(0, 6, 10)", x -> x.kind(0, 6, 10), -6);
         Due.refused("kind(0, 0, greatest)", x -> x.kind(0, 0, Integer.MAX_VALUE), -6);
     }
@@ -104,13 +124,17 @@ final class SentencesOnSettings {
     // ---- promise 7
 
     @Says(promise = 7, sentence = "FORCE (what 0), SIDE (1) at a PLACE. -1; -2.")
-    static void whatWindRefuses() {
+    static void windRefusesNobody() {
         Due.refused("wind(25, 0)", x -> x.wind(25, 0), -1);
         Due.refused("wind(-1, 0)", x -> x.wind(-1, 0), -1);
         Due.refused("wind(greatest, 0)", x -> x.wind(Integer.MAX_VALUE, 0), -1);
+        Due.refused("wind(25, 2)", x -> x.wind(25, 2), -1);
+    }
+
+    @Says(promise = 7, sentence = "FORCE (what 0), SIDE (1) at a PLACE. -1; -2.")
+    static void windRefusesOther() {
         Due.refused("wind(0, 2)", x -> x.wind(0, 2), -2);
         Due.refused("wind(0, -1)", x -> x.wind(0, -1), -2);
-        Due.refused("wind(25, 2)", x -> x.wind(25, 2), -1);
     }
 
     @Says(promise = 7, sentence = "WIND at PLACES 0 .. 24")
@@ -138,12 +162,20 @@ final class SentencesOnSettings {
     }
 
     @Says(promise = 8, sentence = "-1; -4 either; -6 (9; 2).")
-    static void whatBlowsRefuses() {
+    static void blowsRefusesNobody() {
         Due.refused("blows(25, 0, 0)", x -> x.blows(25, 0, 0), -1);
         Due.refused("blows(-1, 0, 0)", x -> x.blows(-1, 0, 0), -1);
+    }
+
+    @Says(promise = 8, sentence = "-1; -4 either; -6 (9; 2).")
+    static void blowsRefusesBelow() {
         Due.refused("blows(0, -1, 0)", x -> x.blows(0, -1, 0), -4);
         Due.refused("blows(0, 0, -1)", x -> x.blows(0, 0, -1), -4);
         Due.refused("blows(0, -1, -1), counted once", x -> x.blows(0, -1, -1), -4);
+    }
+
+    @Says(promise = 8, sentence = "-1; -4 either; -6 (9; 2).")
+    static void blowsRefusesRoom() {
         Due.refused("blows(0, 10, 0)", x -> x.blows(0, 10, 0), -6);
         Due.refused("blows(0, 0, 3)", x -> x.blows(0, 0, 3), -6);
         Due.refused("blows(0, 10, 3), counted once", x -> x.blows(0, 10, 3), -6);
@@ -176,13 +208,21 @@ final class SentencesOnSettings {
     }
 
     @Says(promise = 9, sentence = "becomes v: what it was. -2; -4; -6;")
-    static void whatSetRefuses() {
+    static void setRefusesOther() {
         Due.refused("set(3, 0)", x -> x.set(3, 0), -2);
         Due.refused("set(-1, 0)", x -> x.set(-1, 0), -2);
+    }
+
+    @Says(promise = 9, sentence = "becomes v: what it was. -2; -4; -6;")
+    static void setRefusesBelow() {
         Due.refused("set(0, -1)", x -> x.set(0, -1), -4);
         Due.refused("set(1, 0)", x -> x.set(1, 0), -4);
         Due.refused("set(2, 0)", x -> x.set(2, 0), -4);
         Due.refused("set(2, least)", x -> x.set(2, Integer.MIN_VALUE), -4);
+    }
+
+    @Says(promise = 9, sentence = "becomes v: what it was. -2; -4; -6;")
+    static void setRefusesRoom() {
         Due.refused("set(0, 3)", x -> x.set(0, 3), -6);
         Due.refused("set(1, 3)", x -> x.set(1, 3), -6);
         Due.refused("set(2, 25)", x -> x.set(2, 25), -6);
