@@ -10,7 +10,7 @@ final class SentencesOnPlans {
         Due.is("at place 0", x.stop(), 1);
         x.go(0);
         Due.is("at place 1", x.stop(), 11);
-        Due.is("at place 23", Due.told("p001;p000;p000;d24;" + Due.many(12, "m0;")).stop(), -9);
+        Due.is("all are lit by place 12", Due.told("p001;p000;p000;d24;" + Due.many(12, "m0;")).stop(), -9);
         x.go(0);
         Due.is("at the door", x.stop(), -9);
     }
@@ -76,7 +76,7 @@ final class SentencesOnPlans {
         Due.is("the latest", Due.told("p000;d03;").match(), 20);
         Due.is("then the least", Due.told("p000;p600;p000;d03;").match(), 20);
         Due.is("the 23rd and 7", Due.told(Due.many(7, "p600;") + "p000;d24;").match(), 237);
-        Due.is("more, though earlier", Due.told("p000;p600;p000;p000;d02;").match(), 12);
+        Due.is("two, not one, the latest", Due.told("p000;p600;p000;p000;d02;").match(), 12);
     }
 
     @Says(promise = 25, sentence = "more than without; of several the latest m, then the least: 10 m and whom; -9")
@@ -107,7 +107,7 @@ final class SentencesOnPlans {
     static void theGreatestPartNotNumber() {
         Due.is("two of two, not three of four", Due.told("p001;p000;p600;p001;d01;").tail(), 2);
         Due.is("of several the fewest", Due.told("p001;p001;p001;d01;").tail(), 0);
-        Due.is("two of four and one of two", Due.told("p301;p600;p301;p600;d01;").tail(), 3);
+        Due.is("one of one, not two of three", Due.told("p301;p600;p301;p600;d01;").tail(), 3);
         Due.is("nobody lit", Due.told("p000;p000;p000;d01;").tail(), 0);
         Due.is("at the door", Due.told("p001;p000;p000;d01;m0;").tail(), 1);
     }
