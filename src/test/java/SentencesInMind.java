@@ -109,6 +109,54 @@ final class SentencesInMind {
         }
     }
 
+    /** All is as after the ROAD, but it came call by call to others, in another wind, who were asked before. */
+    private static LitAgain byCalls(String road, List<ToLongFunction<LitAgain>> askedBefore) {
+        LitAgain due = Due.told(road);
+        LitAgain x = Due.told(Due.many(due.count(0), "p291;") + "w0091;w0191;w0291;w0391;d24;f21;" + Due.many(due.count(2), "m0;"));
+        for (ToLongFunction<LitAgain> call : askedBefore) call.applyAsLong(x);
+        for (int one = 0; one < due.count(0); one++) {
+            x.kind(one, due.person(one, 0), due.person(one, 1));
+            x.light(one, due.person(one, 2));
+        }
+        for (int place = 0; place <= 24; place++) x.blows(place, due.wind(place, 0), due.wind(place, 1));
+        for (int what = 0; what <= 2; what++) x.set(what, due.count(4 + what));
+        return withItsMarks(x);
+    }
+
+    /** The ROW tells what wax() asks for. */
+    private static LitAgain withItsMarks(LitAgain x) {
+        for (int one = 0; one < x.count(0); one++) x.row(x.darkFor(one));
+        return x;
+    }
+
+    private static long[] answersOneByOne(String road, List<ToLongFunction<LitAgain>> all) {
+        long[] answers = new long[all.size()];
+        for (int i = 0; i < answers.length; i++) answers[i] = all.get(i).applyAsLong(withItsMarks(Due.told(road)));
+        return answers;
+    }
+
+    @Says(promise = 14, sentence = "In mind, all walking on from now")
+    static void fromNowHoweverItCameToBeSo() {
+        List<ToLongFunction<LitAgain>> all = allInMind();
+        String[] roads = {
+            "p401;p001;p600;p090;w0050;w0192;w0392;f22;d09;", "p500;p190;p391;p000;w0042;w0182;f11;d02;",
+            "p001;p000;p600;p001;p000;p000;w0042;d03;f12;", "p471;p051;p541;p000;w0062;w0171;d04;",
+            "p000;p600;p001;p600;p000;p000;w0080;m0;w0162;d03;l4;", "p461;p490;p200;p051;w0162;w0062;d02;f02;",
+            "p001;p401;p600;p000;w0050;d01;", "p091;p580;p291;p000;p400;p600;p001;p120;w0132;w0262;d05;m0;",
+            "p000;p600;p600;p000;w0092;d03;", "p600;p600;p000;p001;p401;w0150;w0051;d02;f21;"};
+        for (String road : roads) {
+            long[] due = answersOneByOne(road, all);
+            LitAgain onward = byCalls(road, all);
+            LitAgain backward = byCalls(road, List.of());
+            for (int i = 0; i < due.length; i++) {
+                int last = due.length - 1 - i;
+                Due.is(road + " call " + i + " alone", all.get(i).applyAsLong(byCalls(road, List.of())), due[i]);
+                Due.is(road + " call " + i + " behind those before it", all.get(i).applyAsLong(onward), due[i]);
+                Due.is(road + " call " + last + " behind those after it", all.get(last).applyAsLong(backward), due[last]);
+            }
+        }
+    }
+
     // ---- promise 15
 
     @Says(promise = 15, sentence = "AT DOOR: who is LIT there; how many; LIGHT there (GIVES of all LIT).")

@@ -109,6 +109,9 @@ final class SentencesOnPlans {
         Due.is("of several the fewest", Due.told("p001;p001;p001;d01;").tail(), 0);
         Due.is("one of one, not two of three", Due.told("p301;p600;p301;p600;d01;").tail(), 3);
         Due.is("nobody lit", Due.told("p000;p000;p000;d01;").tail(), 0);
+        Due.is("a lesser part, if the last stays", Due.told("p600;p001;d01;").tail(), 0);
+        Due.is("lesser, if the last two stay", Due.told("p600;p001;p600;d01;").tail(), 1);
+        Due.is("one of four, then of three, two, one", Due.told("p600;p600;p600;p301;d01;").tail(), 0);
         Due.is("at the door", Due.told("p001;p000;p000;d01;m0;").tail(), 1);
     }
 
