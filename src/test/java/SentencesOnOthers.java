@@ -277,6 +277,47 @@ final class SentencesOnOthers {
         Due.is("not what the people better", Due.told("p401;p060;w0162;d02;").game(0), 2);
     }
 
+    /** How many are LIT at the DOOR by a FORM and a SIDE, so told. */
+    private static int outcome(String road, int form, int side) {
+        LitAgain x = Due.told(road);
+        x.set(0, form);
+        for (int place = 0; place <= 24; place++) x.blows(place, x.wind(place, 0), side);
+        return x.door(1);
+    }
+
+    /** The nine outcomes, by FORMS, then by SIDES, as digits; and the first pair that they leave steady. */
+    private static void steady(String road, int outcomes, int due) {
+        int told = 0;
+        for (int form = 0; form < 3; form++) {
+            for (int side = 0; side < 3; side++) told = 10 * told + outcome(road, form, side);
+        }
+        Due.is(road + " outcomes", told, outcomes);
+        Due.is(road + " game(0)", Due.told(road).game(0), due);
+    }
+
+    @Says(promise = 49, sentence = "by which neither has it better by another choice alone")
+    static void thePeopleWouldChooseAnotherForm() {
+        steady("p521;p600;p430;p120;p200;p500;p591;w0090;w0100;w0250;d03;", 442343332, 12);
+        steady("p300;p000;p121;p570;p221;w0050;w0170;w0260;d03;", 400220222, 21);
+        steady("p200;p550;p100;p401;w0020;w0160;w0270;w0360;d04;", 240400222, 22);
+        steady("p501;p000;w0050;d01;", 20220000, 2);
+        steady("p501;p620;p480;p560;w0020;w0150;d02;", 322220, 11);
+        steady("p401;p630;p151;w0080;d01;", 20200, 2);
+        steady("p001;p600;p501;p500;w0040;d01;f02;", 222322333, 20);
+        steady("p300;p201;p191;p500;w0060;w0190;d02;", 20020422, 21);
+    }
+
+    @Says(promise = 49, sentence = "neither has it better by another choice alone")
+    static void theWindWouldChooseAnotherSide() {
+        steady("p141;p131;w0070;d01;", 220220000, 2);
+        steady("p191;p400;p500;p501;w0060;d01;", 222222422, 1);
+        steady("p270;p500;p501;w0010;w0150;d02;", 220322222, 11);
+        steady("p401;p411;p670;p581;w0050;d01;", 331332222, 12);
+        steady("p300;p500;p201;p500;w0020;w0150;d02;", 420420422, 21);
+        steady("p300;p101;p181;p190;w0060;w0180;d02;", 440440442, 22);
+        steady("p400;p600;p371;p021;w0040;d01;f02;", 222332333, 20);
+    }
+
     @Says(promise = 49, sentence = "people choose the FORM, the wind one SIDE for all PLACES")
     static void oneSideForAllPlaces() {
         // from the front or from behind one TALL one covers the other at place 1, across nobody does

@@ -13,6 +13,8 @@ final class SentencesOnPlans {
         Due.is("all are lit by place 12", Due.told("p001;p000;p000;d24;" + Due.many(12, "m0;")).stop(), -9);
         x.go(0);
         Due.is("at the door", x.stop(), -9);
+        // the LANTERN must be lit ahead of the wind at place 2
+        Due.is("not later than now", Due.told("p001;p000;p000;p300;w0292;d03;m0;").stop(), 11);
     }
 
     @Says(promise = 19, sentence = "(from now on, below DOOR) and s")
