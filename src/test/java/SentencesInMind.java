@@ -361,6 +361,8 @@ final class SentencesInMind {
         Due.is("each once", Due.told("p001;p000;p000;d03;").again(), 2);
         Due.is("one twice", Due.told("p001;p391;w0042;w0142;d02;").again(), 2);
         Due.is("the last minute, too", Due.told("p001;p000;d01;").again(), 1);
+        Due.is("by the wind of the first place", Due.told("p001;p391;w0042;d03;").again(), 1);
+        Due.is("by the wind of the last place", Due.told("p001;p391;w0242;d03;").again(), 1);
         Due.is("nobody", new LitAgain().again(), 0);
         Due.is("at the door", Due.told("p001;p000;p000;d01;m0;").again(), 0);
     }

@@ -113,6 +113,27 @@ final class SentencesOnNumbers {
         chance(Due.told("p000;p600;w0092;d01;"), 1, 0, 0, 1);
     }
 
+    @Says(promise = 31, sentence = "as it FELT is above HOLDS less 2")
+    static void eachAsItFeelsAndHolds() {
+        // 3 and 4 tenths, with a SMALL one between them
+        chance(Due.told("p001;p600;p401;w0042;d01;"), 1, 0, 22, 25);
+        chance(Due.told("p001;p600;p401;w0042;d01;"), 1, 1, 13, 10);
+        // 5 tenths, and 1 behind the TALL one: who went out is lit again from the next
+        chance(Due.told("p401;p001;w0050;d01;"), 1, 0, 19, 20);
+        chance(Due.told("p401;p001;w0050;d01;"), 1, 1, 19, 10);
+        chance(Due.told("p031;w0042;d01;"), 1, 0, 4, 5);
+        chance(Due.told("p301;p600;p001;w0042;d01;"), 1, 1, 17, 10);
+        chance(Due.told("p600;p600;p600;p001;w0042;d01;"), 1, 0, 7, 10);
+    }
+
+    @Says(promise = 31, sentence = "n MINUTES (0 .. 3): how likely somebody is LIT then")
+    static void minutesFromNow() {
+        chance(Due.told("p001;w0042;w0152;w0262;w0392;d04;m0;l0;"), 0, 0, 1, 1);
+        chance(Due.told("p001;w0042;w0152;w0262;w0392;d04;m0;l0;"), 1, 0, 3, 5);
+        chance(Due.told("p001;w0042;w0152;w0262;w0392;d04;m0;l0;"), 2, 0, 3, 10);
+        chance(Due.told("p001;w0042;w0152;w0262;w0392;d04;m0;l0;"), 3, 0, 3, 50);
+    }
+
     @Says(promise = 31, sentence = "4 PEOPLE at most, n MINUTES (0 .. 3)")
     static void fourPeopleThreeMinutes() {
         chance(Due.told("p001;p000;p000;p000;"), 3, 1, 4, 1);

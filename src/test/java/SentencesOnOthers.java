@@ -41,6 +41,8 @@ final class SentencesOnOthers {
         Due.is("nobody", new LitAgain().changed(), -9);
         Due.is("no minute", Due.told("p001;p000;d01;m0;").changed(), -9);
         Due.is("the first", Due.told("p600;p001;p600;p000;d01;").changed(), 3);
+        // from the second place it lights the first, then the third; from the third all
+        Due.is("not of 0", Due.told("p000;p001;p000;p000;d02;").changed(), 12);
         // 0 and 1 would do for two, 0 and 3 for three
         Due.is("the most", Due.told("p000;p600;p001;p600;p000;p000;f02;d02;").changed(), 3);
     }
@@ -189,6 +191,7 @@ final class SentencesOnOthers {
         Due.is("how many", x.atFirst(0), 2);
         Due.is("0 and 2", x.atFirst(1), 5);
         Due.is("one of three", Due.told("p000;p000;p000;d02;").atFirst(1), 1);
+        Due.is("2 alone, though 0 and 1 have less bits", Due.told("p000;p000;p000;p000;d02;").atFirst(1), 4);
         LitAgain none = Due.told("p001;w0042;");
         Due.is("none, how many", none.atFirst(0), -9);
         Due.is("none, the set", none.atFirst(1), -9);
@@ -369,6 +372,9 @@ final class SentencesOnOthers {
         Due.is("figure 9 in 9", Due.told("p091;w0092;d01;").heirs(0), 8 + 32);
         Due.is("at the door, lit", Due.told("p001;d01;m0;").heirs(0), 63);
         Due.is("not lit, though it was, as SMALL", Due.told("p301;p000;d02;").heirs(0), 63);
+        Due.is("of the second, who is lit by the first", Due.told("p301;p000;d02;").heirs(1), 63);
+        Due.is("of the second, as TALL it does not hold", Due.told("p001;p041;w0042;d01;").heirs(1), 63 - 16);
+        Due.is("of the last of eight", Due.told(Due.many(7, "p600;") + "p001;w0042;d01;").heirs(7), 2 + 4 + 8 + 32);
     }
 
     @Says(promise = 50, sentence = "HEIRS (bits). -1.")

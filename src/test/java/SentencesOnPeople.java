@@ -174,6 +174,15 @@ final class SentencesOnPeople {
         for (int kind = 0; kind < 7; kind++) Due.is("kind " + kind, Due.told("p" + kind + "90;").person(0, 5), due[kind]);
     }
 
+    @Says(promise = 4, sentence = "COVER (3), HOLDS (4), GIVES (5), FELT at PLACE (6)")
+    static void eachHasItsOwn() {
+        LitAgain x = Due.told("p041;p330;p490;p581;p600;p231;p000;p190;w0060;");
+        int[][] due = {{1, 4, 2, 6}, {1, 99, 3, 5}, {3, 5, 3, 5}, {1, 10, 1, 3}, {0, 4, 1, 5}, {0, 5, 1, 6}, {1, 3, 2, 6}, {1, 8, 1, 5}};
+        for (int one = 0; one < due.length; one++) {
+            for (int what = 3; what <= 6; what++) Due.is("person(" + one + ", " + what + ")", x.person(one, what), due[one][what - 3]);
+        }
+    }
+
     @Says(promise = 4, sentence = "FORCE less the COVER of who COVERS it, 0 at least")
     static void feltIs0AtLeast() {
         Due.is("force 2 behind a TALL", Due.told("p400;p000;w0020;").person(1, 6), 0);

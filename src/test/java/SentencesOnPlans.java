@@ -15,6 +15,7 @@ final class SentencesOnPlans {
         Due.is("at the door", x.stop(), -9);
         // the LANTERN must be lit ahead of the wind at place 2
         Due.is("not later than now", Due.told("p001;p000;p000;p300;w0292;d03;m0;").stop(), 11);
+        Due.is("not in the wind that was", Due.told("p301;p000;p000;p300;w0092;w0292;d03;m0;").stop(), 11);
     }
 
     @Says(promise = 19, sentence = "(from now on, below DOOR) and s")
@@ -94,6 +95,8 @@ final class SentencesOnPlans {
         Due.is("the wind of its place blows", Due.told("p000;w0142;d02;").match(), -9);
         Due.is("it lights the next in the same minute", Due.told("p000;p000;d01;").match(), 0);
         Due.is("as all is then", Due.told("p001;p000;p000;p000;d02;").match(), 12);
+        // with 0 still LIT a match for 1 would light 2, too
+        Due.is("0 went out by then", Due.told("p001;p000;p000;w0042;d02;").match(), 10);
     }
 
     // ---- promise 26
@@ -239,6 +242,7 @@ final class SentencesOnPlans {
         Due.is("not the door's", Due.told("p001;w0042;w0142;d02;").calms(0), -9);
         Due.is("now", Due.told("p001;m0;w0142;d02;").calms(0), 1);
         Due.is("at the door", Due.told("p001;w0192;d01;m0;").calms(0), -9);
+        Due.is("one place, not two that are apart", Due.told("p001;w0042;w0242;d03;").calms(0), -9);
         Due.is("place 23", Due.told("p001;w2342;d24;").calms(0), 23);
     }
 
@@ -265,6 +269,11 @@ final class SentencesOnPlans {
         Due.is("nobody there", new LitAgain().calms(1), -9);
         Due.is("at the door", Due.told("p001;w0192;w0292;d01;m0;").calms(1), -9);
         Due.is("three in need", Due.told("p001;w0042;w0142;w0242;d03;").calms(1), -9);
+        Due.is("three in need that are apart", Due.told("p001;w0042;w0242;w0442;d05;").calms(1), -9);
+        Due.is("nobody lit", Due.told("p000;w0042;d02;").calms(1), -9);
+        Due.is("the first of several with two", Due.told("p001;p001;w0142;d03;").calms(1), 1);
+        // 0 and 2 leave three LIT, 1 and 2 four
+        Due.is("the most", Due.told("p091;p000;p000;p000;w0042;w0142;w0242;d03;").calms(1), 102);
         Due.is("no wind", Due.told("p001;p000;").calms(1), -9);
     }
 
@@ -339,6 +348,49 @@ final class SentencesOnPlans {
         Due.is("behind the wind, the first", late.matches(0), 2);
         Due.is("behind the wind, the second", late.matches(1), 3);
         Due.is("behind the wind, the third", late.matches(2), 4);
+    }
+
+    private static void matchesAre(String road, int... minutes) {
+        LitAgain x = Due.told(road);
+        Due.is(road + " matches(-1)", x.matches(-1), minutes.length);
+        for (int i = 0; i < minutes.length; i++) Due.is(road + " matches(" + i + ")", x.matches(i), minutes[i]);
+        Due.is(road + " matches(" + minutes.length + ")", x.matches(minutes.length), -9);
+    }
+
+    @Says(promise = 52, sentence = "each for the least number not LIT then (and not SMALL): the fewest matches (0 .. 3)")
+    static void whoIsLitThenNeedsNoMatch() {
+        // the LANTERN behind a SMALL one gets the match as soon as all others are lit
+        matchesAre("p001;p600;p300;w0192;d02;", 0);
+        matchesAre("p000;p001;p600;p300;w0292;d03;", 1);
+        matchesAre("p000;p000;p001;p600;p300;w0392;d04;", 2);
+        matchesAre("p001;p600;p000;p600;p300;w0292;d03;", 0, 1);
+        matchesAre("p000;p001;p600;p000;p600;p300;w0392;d04;", 1, 2);
+        matchesAre("p001;p600;p000;p600;p000;p600;p300;w0392;d04;", 0, 1, 2);
+        matchesAre("p000;p001;p600;p000;p600;p000;p600;p300;w0492;d05;", 1, 2, 3);
+    }
+
+    @Says(promise = 52, sentence = "a match is lit at three MINUTES at most (0 .. MINUTES to the DOOR less 1")
+    static void minutesOfMatchesFromNow() {
+        // they are at place 2; in the wind of the places 0 and 1 nobody but the LANTERN would hold
+        matchesAre("p000;p600;p300;w0092;w0192;w0592;d06;m0;m0;", 0, 1);
+        matchesAre("p000;p600;p000;p600;p300;w0092;w0192;w0592;d06;m0;m0;", 0, 1, 2);
+        matchesAre("p000;p000;p000;p600;p300;w0092;w0192;w0592;d06;m0;m0;l2;", 2);
+        matchesAre("p000;p000;p600;p000;p600;p300;w0092;w0192;w0592;d06;m0;m0;l1;", 1, 2);
+        matchesAre("p000;p000;p600;p000;p600;p000;p600;p300;w0092;w0192;w0692;d07;m0;m0;l1;", 1, 2, 3);
+    }
+
+    @Says(promise = 52, sentence = "(0 .. MINUTES to the DOOR less 1, each at the beginning)")
+    static void matchesInTheLastMinutes() {
+        LitAgain two = Due.told("p000;p600;p300;d24;");
+        LitAgain three = Due.told("p000;p600;p000;p600;p300;d24;");
+        for (int place = 0; place < 24; place++) {
+            if (place != 22) two.blows(place, 9, 2);
+            if (place != 21 && place != 22) three.blows(place, 9, 2);
+        }
+        int[] due = {2, 22, 23, -9, -9};
+        for (int i = -1; i < 4; i++) Due.is("two matches, matches(" + i + ")", two.matches(i), due[i + 1]);
+        int[] dueOfThree = {3, 21, 22, 23, -9};
+        for (int i = -1; i < 4; i++) Due.is("three matches, matches(" + i + ")", three.matches(i), dueOfThree[i + 1]);
     }
 
     @Says(promise = 52, sentence = "how many (i -1; -9), the i-th MINUTE (-9). -4 below -1.")
